@@ -1302,9 +1302,12 @@ public final class WalkingFences {
             putInOrder(plain, dx, dy);
             for (int i = 0; i < plain.count; i++) {
                 int bone = order[i];
-                int steps = still ? 0 : reckoner.stepsBy(plain, bone, told.strengths[wind], law);
-                int cell = reached(plain, plain.cells[bone], steps, dx, dy);
-                if (cell != plain.cells[bone]) {
+                int from = plain.cells[bone];
+                // The laws are dear and change nothing: a bone that is shut in needs none.
+                boolean shut = still || !plain.isOpen(plain.ground.cellBeside(from, dx, dy));
+                int steps = shut ? 0 : reckoner.stepsBy(plain, bone, told.strengths[wind], law);
+                int cell = reached(plain, from, steps, dx, dy);
+                if (cell != from) {
                     plain.shift(bone, cell);
                     went++;
                 } else {
@@ -1385,7 +1388,8 @@ public final class WalkingFences {
         void seekNight(int farmer, int n) {
             bestBone = NONE;
             bestStep = NONE;
-            bestMean = meanNow(farmer, n);
+            tried[0].copyFrom(now);
+            bestMean = meanOfTried(farmer, n);
             for (int bone = 0; bone < now.count; bone++) {
                 for (int step = 0; step < 4; step++) {
                     int to = now.nightCell(bone, step);
