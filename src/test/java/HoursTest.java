@@ -146,6 +146,10 @@ public final class HoursTest {
             CHECK.due("hours to " + 40 * i, x.hours(i, 40), 0);
         }
         CHECK.due("beyond 999", x.hours(0, 40), -1);
+        x.image();
+        CHECK.due("to 999 at once", x.hours(0, 39), 0);
+        CHECK.due("about(2)", x.about(2), 999);
+        x.back();
         CHECK.due("to 998", x.hours(0, 38), 0);
         CHECK.due("about(2)", x.about(2), 998);
         CHECK.due("two more", x.hours(0, 2), -1);

@@ -71,6 +71,7 @@ public final class LawsTest {
         sum("y", 1);
         sum("hour", 0);
         sum("weight*100+x*10+y", 1321);
+        besides();
         WalkingFences x = plain();
         Check.rule(x, "hold hour*1000+lies;");
         x.wind(0, 0, 0, 1);
@@ -82,6 +83,19 @@ public final class LawsTest {
         x.hours(0, 40);
         CHECK.due("hold at 104: lies stays 99", x.of(0, 3), 8099);
         CHECK.due("of(0, 2)", x.of(0, 2), 99);
+    }
+
+    /** A full plain of 3 by 3: corners have 2 beside them, sides 3, the midst 4. */
+    private static void besides() {
+        WalkingFences x = new WalkingFences(3, 3);
+        Check.rule(x, "hold beside;");
+        for (int c = 0; c < 9; c++) {
+            x.bone(c, 1);
+        }
+        int[] want = {2, 3, 2, 3, 4, 3, 2, 3, 2};
+        for (int c = 0; c < 9; c++) {
+            CHECK.due("beside at " + c, x.of(c, 3), want[c]);
+        }
     }
 
     /** Whether one is found by this; if not, the bone has gone to x + 1. */

@@ -106,6 +106,20 @@ public final class LookingTest {
         CHECK.due("fields", x.about(7), 2);
         x.stake(0, -1);
         CHECK.due("a ring without a stake", x.farmer(0, 1), 0);
+        // Each side of the border opens a ring.
+        int[][] border = {{2, 7}, {10, 11}, {14, 13}, {22, 17}};
+        for (int[] b : border) {
+            WalkingFences z = new WalkingFences(5, 5);
+            for (int c = 0; c < 25; c++) {
+                if (c != b[0] && c != b[1] && c != 12) {
+                    z.bone(c, 50);
+                }
+            }
+            z.stake(0, 12);
+            CHECK.due("a field to the border at " + b[0], z.farmer(0, 1), 0);
+            z.bone(b[0], 50);
+            CHECK.due("a field short of the border at " + b[0], z.farmer(0, 1), 1);
+        }
         // Sides alone count, and no row goes on in the next one.
         WalkingFences y = new WalkingFences(3, 3);
         y.bone(1, 5);
@@ -119,6 +133,12 @@ public final class LookingTest {
         CHECK.due("gates in the midst", y.farmer(1, 2), 4);
         CHECK.due("gates of a corner", y.farmer(0, 2), 2);
         CHECK.due("a ring of one cell", y.farmer(1, 1), 1);
+        WalkingFences corner = new WalkingFences(3, 3);
+        corner.bone(0, 5);
+        corner.bone(4, 5);
+        corner.bone(8, 5);
+        corner.stake(0, 2);
+        CHECK.due("bones in corners are gates, too", corner.farmer(0, 2), 3);
     }
 
     private static void whole() {

@@ -113,6 +113,13 @@ public final class TextsTest {
         wrong("Hold 1;", 1, 0);
         wrong("  holds 1;", 1, 2);
         wrong("1;", 1, 0);
+        for (String letter : new String[] {"a", "z", "A", "Z"}) {
+            wrong("hold" + letter + " 1;", 1, 0);
+        }
+        for (String sign : new String[] {"@", "[", "`", "{", ":", ".", "_", "&", "\r", "\0"}) {
+            wrong("hold" + sign + " 1;", 1, 4);
+            wrong("hold 1" + sign + ";", 1, 6);
+        }
         wrong("hold !;", 1, 5);
         wrong("hold 1\t;", 1, 6);
         wrong("hold at;", 1, 5);
