@@ -1186,7 +1186,8 @@ public final class WalkingFences {
                 return Math.min(MOST_STEPS, 1 + spare / 20);
             }
             names[STRENGTH] = strength;
-            names[SPARE] = Math.min(MOST_VALUE, spare);
+            // By a hold far below 0 this is above MOST_VALUE: only a step of a law is cut, not a name.
+            names[SPARE] = spare;
             return Math.max(0, Math.min(MOST_STEPS, value(law, law.far)));
         }
 
@@ -1244,18 +1245,32 @@ public final class WalkingFences {
                     }
                 } else if (top >= 2) {
                     top--;
-                    stack[top - 1] = joined(sign, stack[top - 1], stack[top]);
+                    stack[top - 1] = isStep(sign) ? cut(stepped(sign, stack[top - 1], stack[top]))
+                            : joined(sign, stack[top - 1], stack[top]);
                 }
             }
             return top > 0 ? stack[0] : 0;
         }
 
+        private static boolean isStep(int sign) {
+            return sign >= PLUS && sign <= BY;
+        }
+
+        private static int cut(long value) {
+            return (int) Math.max(-MOST_VALUE, Math.min(MOST_VALUE, value));
+        }
+
+        private static long stepped(int sign, long a, long b) {
+            switch (sign) {
+                case PLUS: return a + b;
+                case MINUS: return a - b;
+                case TIMES: return a * b;
+                default: return b == 0 ? 0 : a / b;
+            }
+        }
+
         private static int joined(int sign, int a, int b) {
             switch (sign) {
-                case PLUS: return Math.max(-MOST_VALUE, Math.min(MOST_VALUE, a + b));
-                case MINUS: return Math.max(-MOST_VALUE, Math.min(MOST_VALUE, a - b));
-                case TIMES: return (int) Math.max(-MOST_VALUE, Math.min(MOST_VALUE, (long) a * b));
-                case BY: return b == 0 ? 0 : a / b;
                 case MIN: return Math.min(a, b);
                 case MAX: return Math.max(a, b);
                 case LESS: return a < b ? 1 : 0;

@@ -7,6 +7,7 @@ public final class HoursTest {
         ways();
         order();
         fars();
+        sparesBeyond();
         cropsUnderBones();
         lastHour();
         sowing();
@@ -53,6 +54,38 @@ public final class HoursTest {
         blown("far weight-6;", 50, 12);
         blown("far 3;", 10, 8);
         blown("hold 30;far spare-18;", 50, 10);
+    }
+
+    /** A bone that holds as little as can be, so that spare is 1000000 and the strength. */
+    private static void beyond(String far, int strength, int cell) {
+        blown("hold -1000*1000;far " + far + ";", strength, cell);
+    }
+
+    private static void sparesBeyond() {
+        String less = "-1000*1000";
+        beyond("spare" + less, 0, 8);
+        beyond("spare" + less, 1, 9);
+        beyond("spare" + less, 4, 12);
+        beyond("spare" + less, 99, 15);
+        // What stands around a name is no step.
+        beyond("(spare)" + less, 3, 11);
+        beyond("max(spare,0)" + less, 3, 11);
+        beyond("min(spare,spare)" + less, 3, 11);
+        beyond("--spare" + less, 3, 11);
+        beyond("1000*1000+-spare+5", 3, 10);
+        beyond("-(" + "-spare)" + less, 3, 11);
+        // A step is cut.
+        beyond("spare+0" + less, 3, 8);
+        beyond("spare-0" + less, 3, 8);
+        beyond("spare*1" + less, 3, 8);
+        beyond("spare/1" + less, 3, 8);
+        beyond("spare/-1+1000*1000+2", 3, 10);
+        beyond("-spare/1+1000*1000+2", 3, 10);
+        beyond("-spare+0+1000*1000+2", 3, 10);
+        beyond("-spare-0+1000*1000+2", 3, 10);
+        beyond("0-spare+1000*1000+2", 3, 10);
+        beyond("spare/(1000*1000)", 99, 9);
+        beyond("spare/(spare-2)", 99, 9);
     }
 
     private static void ways() {

@@ -184,7 +184,7 @@ public final class NaiveFences {
             }
             Map<String, Integer> names = names(b);
             names.put("strength", strength);
-            names.put("spare", Math.min(1000000, spare));
+            names.put("spare", spare);
             return Math.max(0, Math.min(9, far.sum.applyAsInt(names)));
         }
 

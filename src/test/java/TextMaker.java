@@ -21,6 +21,11 @@ public final class TextMaker {
         StringBuilder s = new StringBuilder();
         int clauses = random.nextInt(12) == 0 ? 19 + random.nextInt(4) : random.nextInt(9);
         boolean[] once = new boolean[3];
+        if (clauses < 9 && random.nextInt(8) == 0) {
+            s.append(lawsBeyond());
+            once[0] = true;
+            once[1] = true;
+        }
         for (int i = 0; i < clauses; i++) {
             String clause = clause(once, clauses > 15);
             if (s.length() + clause.length() <= 300) {
@@ -64,6 +69,12 @@ public final class TextMaker {
             return "bone " + number(1, 99) + " at " + number(0, 7) + gap() + "," + gap() + number(0, 5) + ";";
         }
         return "stake " + number(0, 5) + " at " + number(0, 7) + "," + number(0, 5) + gap() + ";";
+    }
+
+    /** A hold that leaves more spare than a step can have, and a far by what is beyond. */
+    private String lawsBeyond() {
+        String[] names = {"spare", "spare", "strength"};
+        return "hold -1000*1000;far " + sum(names, random.nextInt(3)) + "-1000*1000+" + random.nextInt(4) + ";";
     }
 
     private int number(int least, int most) {
