@@ -47,4 +47,11 @@ final class Check {
     static void rule(WalkingFences x, String text) {
         x.by(read(x, text));
     }
+
+    /** Goes on by the only winds that have chances; no further than calls of forty hours bring it. */
+    static void toHour(WalkingFences x, int hour) {
+        for (int i = 0; i < 25 && x.about(2) < hour; i++) {
+            x.hours(0, Math.min(40, hour - x.about(2)));
+        }
+    }
 }
