@@ -305,6 +305,9 @@ public final class AskingPromisesTest {
         x.bone(1, 5);
         x.bone(3, 5);
         x.stake(0, 0);
+        for (int what : whats) {
+            CHECK.due("there is one, but not " + what + " of it", x.best(0, 0, what), -1);
+        }
         int[] due = {1, 1, 6000};
         for (int what = 0; what < 3; what++) {
             CHECK.due("best(0, 0, " + what + ")", x.best(0, 0, what), due[what]);

@@ -40,6 +40,21 @@ public final class HourEdgesTest {
         WalkingFences x = new WalkingFences(3, 3);
         x.wind(1, 1, 99, 1);
         CHECK.due("without bones none goes", x.hour(0), 0);
+        corners();
+    }
+
+    /** From the four corners of the greatest plain those go that have a cell ahead. */
+    private static void corners() {
+        int[] wents = {2, 1, 2, 1, 2, 1, 2, 1};
+        for (int i = 0; i < WAYS.length; i++) {
+            WalkingFences x = new WalkingFences(8, 6);
+            int[] at = {47, 0, 40, 7};
+            for (int c : at) {
+                x.bone(c, 1);
+            }
+            x.wind(WAYS[i][0], WAYS[i][1], 2, 1);
+            CHECK.due("from the corners by " + name(WAYS[i]), x.hour(0), wents[i]);
+        }
     }
 
     /** Three bones along the wind, told in this order: each can go one step, as the one ahead of it went before. */
@@ -443,7 +458,12 @@ public final class HourEdgesTest {
                     y.bone(c, 5);
                 }
             }
+            // The gap alone: it doesn't go on into the corners.
+            for (int c : new int[] {0, 3, 12, 15}) {
+                y.bone(c, 5);
+            }
             y.stake(0, 5);
+            CHECK.due("five cells", y.farmer(0, 0), 5);
             CHECK.due("a gap in " + around[gap], y.farmer(0, 1), 0);
         }
         WalkingFences all = new WalkingFences(3, 3);

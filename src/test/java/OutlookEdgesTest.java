@@ -190,6 +190,13 @@ public final class OutlookEdgesTest {
         corner(8, 5, 7, 0, 0);
         corner(6, 7, 3, 0, 0);
         corner(2, 1, 5, 0, 2);
+        // The stake in the midst leaves the first bone its last step alone.
+        WalkingFences left = new WalkingFences(3, 3);
+        left.bone(1, 5);
+        left.bone(5, 5);
+        left.stake(0, 2);
+        left.stake(1, 4);
+        night(left, 0, 0, 0, 3, 3000);
         WalkingFences alone = new WalkingFences(3, 3);
         alone.bone(4, 5);
         alone.stake(0, 0);

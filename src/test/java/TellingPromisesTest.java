@@ -3,11 +3,14 @@ import java.util.function.ToIntFunction;
 /** Promises 1 to 12, sentence by sentence: where each ends, what it refuses, and that nothing is done then. */
 public final class TellingPromisesTest {
     private static final Check CHECK = new Check("promises 1 to 12");
+    private static final Document USE = new Document(CHECK, "An object is used", "public final class");
     private static final Document DOC = new Document(CHECK, "The constants:", "Of a BONE: 0 its CELL");
     private static final int LEAST = Integer.MIN_VALUE;
     private static final int MOST = Integer.MAX_VALUE;
 
     public static void main(String[] args) {
+        manyCalls();
+        USE.finish();
         constants();
         newObject();
         bone();
@@ -27,6 +30,24 @@ public final class TellingPromisesTest {
 
     private static void refused(String call, ToIntFunction<WalkingFences> asked, int want) {
         Look.unchanged(CHECK, call, asked, want);
+    }
+
+    private static void manyCalls() {
+        USE.says("An object is used for at most 512 calls after it has been made; what later calls answer is free.");
+        WalkingFences x = new WalkingFences(3, 3);
+        x.bone(4, 5);
+        x.wind(0, 0, 0, 1);
+        for (int i = 3; i < 511; i++) {
+            CHECK.due("call " + i, x.hour(0), 0);
+        }
+        CHECK.due("call 511", x.of(0, 2), 99);
+        CHECK.due("call 512", x.about(2), 508);
+        // Texts are the calls that make objects: as many of them as there can be.
+        WalkingFences y = new WalkingFences(3, 3);
+        for (int i = 0; i < 256; i++) {
+            CHECK.due("text " + i, y.text(), 0);
+            CHECK.due("back from " + i, y.back(), 0);
+        }
     }
 
     private static void constants() {
@@ -230,8 +251,23 @@ public final class TellingPromisesTest {
         CHECK.due("what is cut can't come again", x.end(6), -1);
         CHECK.due("far 1 isn't whole", x.text(), -1);
         CHECK.due("at its end", x.fault(1), 5);
+        // What lay behind the end isn't read, though it would hang together with the last byte.
+        afterEnd("holdx", 4, 4);
+        afterEnd("hold 12", 6, 6);
+        afterEnd("hold", 3, 0);
+        afterEnd("found 1<=1;", 8, 8);
         CHECK.due("end(0) of none", x.end(0), 0);
         CHECK.due("end(1) of none", x.end(1), -1);
+    }
+
+    /** Of a tape of which only the first n bytes are left, this is the place of fault 1. */
+    private static void afterEnd(String tape, int n, int place) {
+        WalkingFences x = new WalkingFences(3, 3);
+        Check.putOnTape(x, tape);
+        x.end(n);
+        CHECK.due(tape + " cut to " + n, x.text(), -1);
+        CHECK.due("fault of " + tape + " cut to " + n, x.fault(0), 1);
+        CHECK.due("place of " + tape + " cut to " + n, x.fault(1), place);
     }
 
     private static void text() {
@@ -251,6 +287,7 @@ public final class TellingPromisesTest {
         CHECK.due("two are there", y.about(5), 2);
         CHECK.due("the text that rules", y.about(6), 0);
         CHECK.due("the next number isn't lost", Check.read(y, "far 1;"), 2);
+        behindFaults();
         WalkingFences z = Look.told();
         z.text();
         z.text();
@@ -261,6 +298,37 @@ public final class TellingPromisesTest {
         CHECK.due("the tape that stayed is a text then", z.text(), 0);
         z.by(0);
         CHECK.due("it rules", z.of(0, 3), 3);
+    }
+
+    /** Nothing is left of what had a fault, nor of texts from which one has gone back. */
+    private static void behindFaults() {
+        WalkingFences x = new WalkingFences(8, 6);
+        x.bone(0, 5);
+        for (int i = 0; i < 5; i++) {
+            CHECK.due("nineteen and a fault", Check.read(x, "bone 5 at 1,1;".repeat(19) + "far"), -1);
+            CHECK.due("long and a fault", Check.read(x, "hold " + "1+".repeat(140) + "!"), -1);
+            CHECK.due("found and a fault", Check.read(x, "crop 1;found 1=1;found 1=1;far !"), -1);
+        }
+        CHECK.due("a long one", Check.read(x, "hold " + "1+".repeat(146) + "1;"), 0);
+        CHECK.due("twenty", Check.read(x, "far 1;" + "bone 5 at 1,1;".repeat(19)), 1);
+        x.by(0);
+        CHECK.due("it is whole", x.of(0, 3), 147);
+        CHECK.due("no one is found by it", x.night(0, 0, 1), 1);
+        CHECK.due("nothing is drawn by it", x.draw(0), -1);
+        CHECK.due("no bone", x.about(3), 0);
+        WalkingFences y = new WalkingFences(3, 3);
+        y.bone(0, 5);
+        y.image();
+        Check.rule(y, "found 1=1;found 1=1;found 1=1;");
+        y.back();
+        Check.rule(y, "found 1+1+1+1+1+1=2;");
+        CHECK.due("not found by what has gone", y.night(0, 0, 1), 1);
+        y.back();
+        Check.read(y, "bone 5 at 2,2;bone 5 at 1,1;bone 5 at 0,1;");
+        y.back();
+        Check.read(y, "bone 5 at 1,2;");
+        CHECK.due("nor drawn", y.draw(0), -1);
+        CHECK.due("no bone of it", y.about(3), 1);
     }
 
     private static void fault() {

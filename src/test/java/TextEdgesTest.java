@@ -68,10 +68,32 @@ public final class TextEdgesTest {
         read("hold 1" + " ".repeat(294), 1, 300);
         sound("hold " + "1+".repeat(146) + "11;");
         read("hold " + "1+".repeat(147) + "1", 1, 300);
+        mostTokens();
         WalkingFences full = new WalkingFences(3, 3);
         Check.putOnTape(full, " ".repeat(300));
         CHECK.due("no byte more than 300", full.feed(0, 0, 0, 0, 0), -1);
         CHECK.due("300 blanks are a text", full.text(), 0);
+        String blanks = " ".repeat(299);
+        for (String last : new String[] {"!", "7", ";", "<", "h"}) {
+            read(blanks + last, 1, 299);
+        }
+        for (String last : new String[] {"hold", "hol", "min", "7", "<", ">="}) {
+            read("hold" + " ".repeat(296 - last.length()) + last, 1, last.equals("7") || last.equals("min") ? 300
+                    : 300 - last.length());
+        }
+    }
+
+    /** No text has more tokens: three bytes for the first, one for each other. It comes to 145. */
+    private static void mostTokens() {
+        String text = "far-(1" + "-1".repeat(146) + ");";
+        CHECK.due("bytes", text.length(), 300);
+        sound(text);
+        WalkingFences x = new WalkingFences(8, 3);
+        x.bone(0, 5);
+        x.wind(1, 0, 6, 1);
+        Check.rule(x, text);
+        x.hour(0);
+        CHECK.due("as far as the plain", x.of(0, 0), 7);
     }
 
     private static void blanks() {
@@ -199,6 +221,12 @@ public final class TextEdgesTest {
         stand("found 1=1 and", asks);
         stand("found 1=1 or 1=1", STEPS + " and or ;");
         stand("found 1=1 and 1=1", STEPS + " and or ;");
+        found("1=2 or 1=1 or 1=2", true);
+        found("1=2 or 1=2 or 1=1", true);
+        found("1=1 or 1=2 or 1=2", true);
+        found("1=2 or 1=2 or 1=2", false);
+        found("1=1 and 1=2 and 1=1", false);
+        found("1=1 and 1=1 and 1=1", true);
         found("1=2 and 1=1 or 1=1", true);
         found("1=1 or 1=1 and 1=2", true);
         found("1=2 or 1=2 and 1=1", false);
